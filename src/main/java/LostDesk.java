@@ -177,7 +177,8 @@ public final class LostDesk {
     public int matched(int loss) {
         if (!losses.has(loss)) return refuse(NO_SUCH);
         if (losses.isHanded[loss]) return refuse(CLOSED);
-        int find = bestFind(loss);
+        freshenBest();
+        int find = matcher.bestFindOf[loss];
         return find == NONE ? refuse(NOT_THERE) : answer(find);
     }
 
@@ -185,7 +186,8 @@ public final class LostDesk {
         if (!losses.has(loss)) return refuse(NO_SUCH);
         if (!isWithin(s, 0, GREATEST_S)) return refuse(BAD_NUMBER);
         if (losses.isHanded[loss]) return refuse(CLOSED);
-        int find = bestFind(loss);
+        freshenBest();
+        int find = matcher.bestFindOf[loss];
         if (find == NONE) return refuse(NOT_THERE);
         return answer(matcher.leastCostWithout(loss, find) > matcher.bestCost + s ? 1 : 0);
     }
@@ -332,10 +334,10 @@ public final class LostDesk {
 
     private void freshenBest() {
         if (!bestIsOld) return;
-        matcher.begin(losses.count, finds.count, gap);
+        matcher.begin(losses.count, finds.count);
         for (int loss = 0; loss < losses.count; loss++) {
             boolean open = !losses.isHanded[loss];
-            matcher.setOpen(loss, open);
+            matcher.setLoss(loss, open, gap);
             for (int find = 0; find < finds.count; find++) {
                 boolean free = open && finds.isKept(find);
                 matcher.setPrice(loss, find, free ? pairCost(loss, find) : NONE);
@@ -343,11 +345,6 @@ public final class LostDesk {
         }
         matcher.findBest();
         bestIsOld = false;
-    }
-
-    private int bestFind(int loss) {
-        freshenBest();
-        return matcher.bestFindOf[loss];
     }
 
     private int differingMarks(int find, int other) {
@@ -481,7 +478,7 @@ public final class LostDesk {
     /** PLACES, the WAYS between them, and how FAR they are. */
     private static final class Places {
         private final int[][] ticksOf = new int[MOST_PLACES][MOST_PLACES];
-        /** FAR from each PLACE; a row is measured when it is first asked for after a change. */
+        /** FAR from each PLACE; a row is measured when it is first asked for after a change of the WAYS. */
         private final int[][] farOf = new int[MOST_PLACES][MOST_PLACES];
         private final boolean[] isMeasured = new boolean[MOST_PLACES];
         private int count = 0;
@@ -501,7 +498,6 @@ public final class LostDesk {
                 ticksOf[other][place] = NONE;
             }
             count++;
-            forgetFar();
             return place;
         }
 
@@ -720,10 +716,11 @@ public final class LostDesk {
     }
 
     /**
-     * Finds BEST. Each LOSS has a seat: a FIND, or the bench, which is behind all FINDS and has room for all.
-     * Dues of LOSSES and of seats never make more than the price of a pair; LOSSES sit where they make just
-     * as much, and a FIND that has a due other than 0 is taken. Then the seating is of least COST, and
-     * the others of least COST are just those that keep to this too.
+     * Finds BEST by the Hungarian method. Each LOSS has a seat: a FIND, or the bench, which is behind all FINDS
+     * and has room for all. LOSSES and seats have dues: those of a LOSS and a seat together are at most their
+     * price, and what is left of the price is the slack. A seating is of least COST just when no LOSS sits with
+     * slack and no FIND with a due other than 0 is left empty; so from one of them moves without slack lead to
+     * all others.
      */
     private static final class Matcher {
         /** Far above all COSTS, and low enough that sums of it stay in an int. */
@@ -731,9 +728,10 @@ public final class LostDesk {
         private static final int EMPTY = -1;
         private static final int NOBODY = -2;
 
-        private final int[][] priceOf = new int[MOST_LOSSES][MOST_FINDS];
+        private final int[][] priceOf = new int[MOST_LOSSES][MOST_FINDS + 1];
         private final boolean[] isOpen = new boolean[MOST_LOSSES];
         private final int[] bestFindOf = new int[MOST_LOSSES];
+        /** NONE for a LOSS that is HANDED: it takes no part. */
         private final int[] seatOf = new int[MOST_LOSSES];
         private final int[] sitterOf = new int[MOST_FINDS];
         private final int[] lossDue = new int[MOST_LOSSES];
@@ -745,17 +743,16 @@ public final class LostDesk {
         private final int[] queue = new int[MOST_FINDS + 1];
         private int lossCount = 0;
         private int bench = 0;
-        private int benchPrice = 0;
         private int bestCost = 0;
 
-        void begin(int losses, int finds, int gap) {
+        void begin(int losses, int finds) {
             lossCount = losses;
             bench = finds;
-            benchPrice = gap;
         }
 
-        void setOpen(int loss, boolean open) {
+        void setLoss(int loss, boolean open, int gap) {
             isOpen[loss] = open;
+            priceOf[loss][bench] = gap;
         }
 
         void setPrice(int loss, int find, int price) {
@@ -765,12 +762,11 @@ public final class LostDesk {
         void findBest() {
             seatAll();
             for (int loss = 0; loss < lossCount; loss++) {
-                if (isOpen[loss]) settle(loss);
+                if (seatOf[loss] != NONE) settle(loss);
             }
             bestCost = seatingCost();
             for (int loss = 0; loss < lossCount; loss++) {
-                boolean paired = isOpen[loss] && seatOf[loss] != bench;
-                bestFindOf[loss] = paired ? seatOf[loss] : NONE;
+                bestFindOf[loss] = seatOf[loss] == bench ? NONE : seatOf[loss];
             }
         }
 
@@ -796,17 +792,14 @@ public final class LostDesk {
         private int seatingCost() {
             int sum = 0;
             for (int loss = 0; loss < lossCount; loss++) {
-                if (isOpen[loss]) sum += price(loss, seatOf[loss]);
+                int seat = seatOf[loss];
+                if (seat != NONE) sum += priceOf[loss][seat];
             }
             return sum;
         }
 
-        private int price(int loss, int seat) {
-            return seat == bench ? benchPrice : priceOf[loss][seat];
-        }
-
         private int slack(int loss, int seat) {
-            return price(loss, seat) - lossDue[loss] - seatDue[seat];
+            return priceOf[loss][seat] - lossDue[loss] - seatDue[seat];
         }
 
         private boolean isEmpty(int seat) {
@@ -855,10 +848,11 @@ public final class LostDesk {
         private void raiseDues(int newcomer, int passed, int by) {
             lossDue[newcomer] += by;
             for (int seat = 0; seat <= bench; seat++) {
-                if ((passed >>> seat & 1) == 0) {
+                int sitter = (passed >>> seat & 1) != 0 ? sitterOf[seat] : EMPTY;
+                if (sitter == EMPTY) {
                     slackOf[seat] -= by;
                 } else {
-                    lossDue[sitterOf[seat]] += by;
+                    lossDue[sitter] += by;
                     seatDue[seat] -= by;
                 }
             }
