@@ -493,10 +493,8 @@ public final class LostDesk {
 
         int add() {
             int place = count;
+            // The whole row, so that those before already have no WAY to the ones that come.
             Arrays.fill(ticksOf[place], NONE);
-            for (int other = 0; other < place; other++) {
-                ticksOf[other][place] = NONE;
-            }
             count++;
             return place;
         }

@@ -5,10 +5,6 @@ final class CountedDesk {
     private final LostDesk desk = new LostDesk();
     private int calls = 0;
 
-    int calls() {
-        return calls;
-    }
-
     int status() {
         return call("status");
     }

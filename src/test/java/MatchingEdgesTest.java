@@ -11,7 +11,9 @@ public final class MatchingEdgesTest {
         gapIsNotForThoseHanded();
         bestIsOfLeastCost();
         firstOfSeveral();
+        firstOfSeveralAmongFreeFinds();
         noneIsBehindAll();
+        noneIsBehindAllOfMany();
         sureWithin();
         sureAgainstOtherPairs();
         sureAgainstAnotherFind();
@@ -39,6 +41,7 @@ public final class MatchingEdgesTest {
         scene.gives(1, "claim", 0, 1, 1, 1).gives(1, "hand", 0, 1);
         scene.gives(0, "match").gives(0, "matched", 1).gives(3, "matched", 2).refuses(5, "matched", 0);
         scene.gives(2, "tick", 731).gives(40, "match").refuses(7, "matched", 1).refuses(7, "matched", 2);
+        scene.finds(1).gives(20, "match").gives(4, "matched", 1).gives(1, "tick", 731).gives(40, "match");
     }
 
     private static void gapOfEachLoss() {
@@ -77,6 +80,17 @@ public final class MatchingEdgesTest {
         }
     }
 
+    /** LOSS 0 CAN be all 24 at COST 0, LOSS 1 just FINDS 0 and 2: it must leave FIND 0 to LOSS 0. */
+    private static void firstOfSeveralAmongFreeFinds() {
+        Scene scene = new Scene(CHECK, "of several the first: LOSS by LOSS, the lesser FIND");
+        scene.small();
+        for (int find = 0; find < 24; find++) {
+            scene.tell("found", 0, 0, find == 0 || find == 2 ? 1 : 0, 0, 10);
+        }
+        scene.losses(1).tell("lost", 0, 0, 1, 0, 0, 10).gives(0, "match").gives(0, "matched", 0).gives(2, "matched", 1);
+        scene.gives(0, "sure", 0, 0).gives(0, "sure", 1, 0).gives(0, "matched", 0).gives(2, "matched", 1);
+    }
+
     /** A pair at just GAP costs as much as none, and goes before it, for the first LOSS before the others. */
     private static void noneIsBehindAll() {
         Scene scene = new Scene(CHECK, "(none: behind all).");
@@ -86,6 +100,15 @@ public final class MatchingEdgesTest {
         scene.tell("found", 0, 0, 0, 0, 0).gives(18, "match").gives(0, "matched", 0).gives(1, "matched", 1);
         scene.tell("gap", 0).tell("lost", 0, 0, 0, 0, 0, 0).gives(0, "match");
         scene.gives(0, "matched", 2).refuses(7, "matched", 0).refuses(7, "matched", 1);
+    }
+
+    /** Every MATCHING of 24 LOSSES and 24 FINDS costs 0 here, that of no pairs too. */
+    private static void noneIsBehindAllOfMany() {
+        Scene scene = new Scene(CHECK, "(none: behind all).");
+        scene.small().finds(24).losses(24).tell("gap", 0).gives(0, "match");
+        for (int loss = 0; loss < 24; loss++) {
+            scene.gives(loss, "matched", loss).gives(0, "sure", loss, 0);
+        }
     }
 
     /** Without its pair a LOSS is in none at worst, so GAP tells within what it can be SURE. */

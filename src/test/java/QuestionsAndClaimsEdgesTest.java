@@ -1,5 +1,6 @@
 /** "==== 3.", first half: KEPT, ALIKE, QUESTIONS, CLAIMS and HANDED; a test for each sentence. */
 public final class QuestionsAndClaimsEdgesTest {
+    private static final int NONE = LostDesk.NONE;
     private static final Check CHECK = new Check();
 
     public static void main(String[] args) {
@@ -19,6 +20,8 @@ public final class QuestionsAndClaimsEdgesTest {
         handedByARightClaim();
         handedAgainstOthers();
         lossIsHandedToo();
+        lastLossIsHandedToo();
+        claimStaysWhenWaysGo();
         CHECK.end();
     }
 
@@ -164,5 +167,20 @@ public final class QuestionsAndClaimsEdgesTest {
         scene.small().finds(3).losses(2).tell("claim", 0, 0, 1, 0).tell("claim", 0, 1, 1, 1);
         scene.gives(1, "hand", 0, 1).gives(0, "match");
         scene.refuses(5, "hand", 0, 0).refuses(5, "claim", 0, 2, 1, 0).refuses(5, "matched", 0).refuses(5, "sure", 0, 0);
+    }
+
+    private static void lastLossIsHandedToo() {
+        Scene scene = new Scene(CHECK, "the LOSS is HANDED then, too.");
+        scene.small().finds(24).losses(24).tell("claim", 23, 23, 1, 1).tell("claim", 22, 23, 1, 1);
+        scene.refuses(8, "hand", 23, 23).tell("claim", 22, 22, 1, 0).gives(1, "hand", 22, 22).gives(1, "hand", 23, 23);
+        scene.gives(23, "told", 23, 5).gives(22, "told", 22, 5).gives(0, "match");
+        scene.refuses(5, "matched", 23).refuses(5, "matched", 22).refuses(5, "hand", 23, 0);
+    }
+
+    /** A CLAIM was made on what the LOSS CAN be then; the document asks no more of it when the FIND is HANDED. */
+    private static void claimStaysWhenWaysGo() {
+        Scene scene = new Scene(CHECK, "HANDED is a FIND to a LOSS with a RIGHT CLAIM on at least one MARK,");
+        scene.town().tell("found", 0, 0, 1, 0, 10).tell("lost", 0, 0, 0, 1, 0, 0).gives(1, "claim", 0, 0, 1, 1);
+        scene.tell("way", 0, 1, NONE).refuses(6, "cost", 0, 0).refuses(4, "claim", 0, 0, 1, 1).gives(1, "hand", 0, 0);
     }
 }
