@@ -22,15 +22,22 @@ public final class FaceTest {
         "boolean bag(int,int)", "boolean keeping(int,int)", "int due(int)", "int tick(int)",
         "int reward(int,int,int,int)", "int out(int)"
     };
+    private static final Path DOCUMENT = Path.of("../shared/DOC.md");
+    private static final Pattern HEAD = Pattern.compile("(?m)^    (public .+?)(?:;| \\{)$");
     private static final Pattern OUTSIDE = Pattern.compile(
-        "\\b(throw|throws|try|catch|synchronized|assert|package|protected|Exact)\\b|->|::|\\bimport (?!java\\.util\\.Arrays;)");
+        "\\b(throw|throws|try|catch|synchronized|assert|package|protected|\\w+Exact)\\b|->|::|\\bimport (?!java\\.util\\.Arrays;)");
+    private static final int MOST_PARAMETERS = 7;
+    private static final int MOST_CLASSES = 12;
+    private static final int MOST_FIELDS = 20;
     private static final Check CHECK = new Check();
 
     public static void main(String[] args) throws IOException {
         face();
+        headsAreThoseOfTheDocument();
         nothingElseIsVisible();
         noPrivateNameIsPublic();
         textKeepsToTheLanguage();
+        classesStaySmall();
         CHECK.end();
     }
 
@@ -46,6 +53,25 @@ public final class FaceTest {
         CHECK.due("constructors", makers.length, 1);
         CHECK.due("the constructor is public", makers[0].getModifiers(), Modifier.PUBLIC);
         CHECK.due("its parameters", makers[0].getParameterCount(), 0);
+    }
+
+    /** Names of parameters and the constant too, which the class file does not show. */
+    private static void headsAreThoseOfTheDocument() throws IOException {
+        Set<String> due = heads(Files.readString(DOCUMENT));
+        Set<String> there = heads(Files.readString(SOURCE));
+        CHECK.due("heads in the document", due.size(), FACE.length + 2);
+        holds("public heads are " + there, there.equals(due));
+        holds("the constant is among them", due.contains("public static final int NONE = -1"));
+        CHECK.due("NONE", LostDesk.NONE, -1);
+    }
+
+    private static Set<String> heads(String text) {
+        Set<String> heads = new TreeSet<>();
+        Matcher head = HEAD.matcher(text);
+        while (head.find()) {
+            heads.add(head.group(1));
+        }
+        return heads;
     }
 
     private static String describe(Method method) {
@@ -99,6 +125,27 @@ public final class FaceTest {
             holds("the code has " + outside.group(), false);
         }
         holds("the text has characters 0 to 255 alone", text.chars().allMatch(c -> c < 256));
+    }
+
+    private static void classesStaySmall() {
+        Class<?>[] inside = LostDesk.class.getDeclaredClasses();
+        holds("there are few classes", inside.length + 1 <= MOST_CLASSES);
+        isSmall(LostDesk.class);
+        for (Class<?> one : inside) {
+            isSmall(one);
+        }
+    }
+
+    private static void isSmall(Class<?> one) {
+        long fields = Arrays.stream(one.getDeclaredFields()).filter(f -> !Modifier.isStatic(f.getModifiers())).count();
+        holds(one + " has few fields", fields <= MOST_FIELDS);
+        for (Field field : one.getDeclaredFields()) {
+            boolean isStatic = Modifier.isStatic(field.getModifiers());
+            holds(field + " is final if it is static", !isStatic || Modifier.isFinal(field.getModifiers()));
+        }
+        for (Method method : one.getDeclaredMethods()) {
+            holds(method + " takes few parameters", method.getParameterCount() <= MOST_PARAMETERS);
+        }
     }
 
     private static void holds(String what, boolean holds) {
